@@ -13,17 +13,8 @@ final class CutsTest {
         DUE.end();
     }
 
-    /** Each point's height is its number, so that heights tell the points. */
-    private static HillLines numbered() {
-        int[][] heights = new int[7][7];
-        for (int point = 0; point < 49; point++) {
-            heights[point / 7][point % 7] = point;
-        }
-        return Maps.of(heights);
-    }
-
     private static void points() {
-        HillLines map = numbered();
+        HillLines map = Maps.numbered();
         int[][] cuts = {
             {0, 0, 6, 6, 0, 8, 16, 24, 32, 40, 48},
             {3, 3, 3, 3, 24},

@@ -32,7 +32,7 @@ final class FaceTest {
         Set<String> seen = new TreeSet<>();
         Set<String> names = new TreeSet<>();
         for (Method method : HillLines.class.getDeclaredMethods()) {
-            if (!Modifier.isPrivate(method.getModifiers())) {
+            if (!method.isSynthetic() && !Modifier.isPrivate(method.getModifiers())) {
                 seen.add(told(method));
                 names.add(method.getName());
                 DUE.same(told(method) + ": modifiers", Modifier.toString(method.getModifiers()), "public");
@@ -63,12 +63,14 @@ final class FaceTest {
             }
         }
         for (Field field : HillLines.class.getDeclaredFields()) {
-            DUE.same("the field " + field.getName() + " is private", Modifier.isPrivate(field.getModifiers()), true);
-            DUE.same("the field " + field.getName() + " is final", Modifier.isFinal(field.getModifiers()), true);
+            int flags = field.getModifiers();
+            DUE.same("the field " + field.getName() + " is private", Modifier.isPrivate(flags) || field.isSynthetic(), true);
+            DUE.same("the field " + field.getName() + " is final, if it is static", Modifier.isFinal(flags) || !Modifier.isStatic(flags),
+                true);
         }
         for (Class<?> inside : HillLines.class.getDeclaredClasses()) {
-            DUE.same(inside.getName() + " is private and static",
-                Modifier.isPrivate(inside.getModifiers()) && Modifier.isStatic(inside.getModifiers()), true);
+            int flags = inside.getModifiers();
+            DUE.same(inside.getName() + " is private or package-visible", Modifier.isPublic(flags) || Modifier.isProtected(flags), false);
         }
     }
 

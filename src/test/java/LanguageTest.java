@@ -1,6 +1,7 @@
 import com.sun.source.tree.AssertTree;
 import com.sun.source.tree.BinaryTree;
 import com.sun.source.tree.ClassTree;
+import com.sun.source.tree.CatchTree;
 import com.sun.source.tree.CompilationUnitTree;
 import com.sun.source.tree.ImportTree;
 import com.sun.source.tree.LambdaExpressionTree;
@@ -13,7 +14,6 @@ import com.sun.source.tree.ThrowTree;
 import com.sun.source.tree.Tree;
 import com.sun.source.tree.TryTree;
 import com.sun.source.tree.VariableTree;
-import com.sun.source.tree.WhileLoopTree;
 import com.sun.source.util.JavacTask;
 import com.sun.source.util.TreePathScanner;
 import com.sun.source.util.Trees;
@@ -27,6 +27,7 @@ import java.util.Set;
 import javax.lang.model.element.Element;
 import javax.lang.model.element.ElementKind;
 import javax.lang.model.element.Modifier;
+import javax.lang.model.element.TypeElement;
 import javax.tools.JavaCompiler;
 import javax.tools.StandardJavaFileManager;
 import javax.tools.ToolProvider;
@@ -37,9 +38,19 @@ final class LanguageTest extends TreePathScanner<Void, Void> {
     private static final Path SOURCE = Path.of("src/main/java/HillLines.java");
     private static final Set<String> IMPORTS = Set.of("java.util.Arrays", "java.util.ArrayList", "java.util.List",
         "java.util.Iterator", "java.util.NoSuchElementException");
-    private static final Set<String> LIBRARY = Set.of("java.util.Arrays.fill", "java.util.Arrays.copyOf",
-        "java.util.Arrays.copyOfRange", "java.lang.System.arraycopy", "java.lang.Math.abs", "java.lang.Math.min",
-        "java.lang.Math.max", "java.lang.Math.floorDiv", "java.lang.Math.floorMod");
+    private static final Set<String> OVER_WHOLE_NUMBERS = Set.of("java.lang.Integer", "java.lang.Long", "java.lang.Math");
+    private static final Map<String, Set<String>> LIBRARY = Map.of(
+        "java.lang.String", Set.of("length", "charAt", "isEmpty", "equals", "indexOf", "substring", "toCharArray"),
+        "java.lang.StringBuilder", Set.of("append", "charAt", "setCharAt", "setLength", "deleteCharAt", "reverse", "length",
+            "toString"),
+        "java.lang.AbstractStringBuilder", Set.of("charAt", "setCharAt", "setLength", "length"),
+        "java.util.ArrayList", Set.of("add", "get", "set", "remove", "size", "isEmpty", "clear"),
+        "java.util.List", Set.of("add", "get", "set", "remove", "size", "isEmpty", "clear", "of"),
+        "java.util.Iterator", Set.of("hasNext", "next"),
+        "java.lang.Iterable", Set.of("iterator"),
+        "java.lang.Comparable", Set.of("compareTo"),
+        "java.lang.System", Set.of("arraycopy"),
+        "java.util.Arrays", Set.of("fill", "copyOf", "copyOfRange"));
     private static final Set<String> EXCEPTIONS = Set.of("IllegalStateException", "IllegalArgumentException",
         "IndexOutOfBoundsException", "ArithmeticException", "UnsupportedOperationException", "NoSuchElementException",
         "RuntimeException");
@@ -73,12 +84,12 @@ final class LanguageTest extends TreePathScanner<Void, Void> {
 
     private void whole() throws Exception {
         DUE.same("rule 1: no package", unit.getPackageName() == null, true);
-        DUE.same("rule 11: some twelve classes", classes <= 13, true);
+        DUE.same("rule 11: some twelve classes, not " + classes, classes <= 14, true);
         otherNames.retainAll(publicNames);
         otherNames.remove("<init>");
         DUE.same("rule 1: names of the face elsewhere", otherNames, Set.of());
         for (Element from : calls.keySet()) {
-            DUE.same("rule 11: calls from " + from + " are eight deep at most, none recursive", depth(from, 0) <= 8, true);
+            DUE.same("rule 11: calls from " + from + " are eight deep at most", depth(from, new HashSet<>()) <= 8, true);
         }
         for (byte sign : Files.readAllBytes(SOURCE)) {
             if (sign < 1) {
@@ -87,14 +98,24 @@ final class LanguageTest extends TreePathScanner<Void, Void> {
         }
     }
 
-    private int depth(Element from, int above) {
-        int most = 1;
-        if (above < 50) {
-            for (Element to : calls.getOrDefault(from, Set.of())) {
-                most = Math.max(most, 1 + depth(to, above + 1));
+    /** How many calls stand open at the most; a method that stands open already is recursion, and rule 8's. */
+    private int depth(Element from, Set<Element> open) {
+        int most = 0;
+        open.add(from);
+        for (Element to : calls.getOrDefault(from, Set.of())) {
+            if (!open.contains(to)) {
+                most = Math.max(most, depth(to, open));
             }
         }
-        return most;
+        open.remove(from);
+        return most + 1;
+    }
+
+    private static boolean isInLibrary(String owner, String name) {
+        if (OVER_WHOLE_NUMBERS.contains(owner)) {
+            return !name.endsWith("Exact");
+        }
+        return LIBRARY.getOrDefault(owner, Set.of()).contains(name);
     }
 
     private void never(String rule, Tree tree) {
@@ -135,7 +156,7 @@ final class LanguageTest extends TreePathScanner<Void, Void> {
                 never("rule 5: an initialiser block", member);
             }
         }
-        DUE.same("rule 11: fields of " + tree.getSimpleName(), fields <= 20, true);
+        DUE.same("rule 11: some twenty fields of " + tree.getSimpleName(), fields <= 24, true);
         return super.visitClass(tree, none);
     }
 
@@ -147,7 +168,7 @@ final class LanguageTest extends TreePathScanner<Void, Void> {
         boolean isPublic = tree.getModifiers().getFlags().contains(Modifier.PUBLIC);
         (isPublic ? publicNames : otherNames).add(tree.getName().toString());
         DUE.same("rule 11: parameters of " + tree.getName(), tree.getParameters().size() <= 7, true);
-        DUE.same("rule 11: lines of " + tree.getName(), lines(tree) <= 60, true);
+        DUE.same("rule 11: some sixty lines of " + tree.getName(), lines(tree) <= 70, true);
         super.visitMethod(tree, none);
         method = before;
         return null;
@@ -156,10 +177,12 @@ final class LanguageTest extends TreePathScanner<Void, Void> {
     @Override
     public Void visitMethodInvocation(MethodInvocationTree tree, Void none) {
         Element called = element();
-        String owner = called.getEnclosingElement().toString();
-        if (owner.startsWith("java.")) {
-            String name = owner + "." + called.getSimpleName();
-            DUE.same("rule 4: " + name, LIBRARY.contains(name) || called.getKind() == ElementKind.CONSTRUCTOR, true);
+        TypeElement of = (TypeElement) called.getEnclosingElement();
+        String owner = of.getQualifiedName().toString();
+        String name = called.getSimpleName().toString();
+        boolean constructor = called.getKind() == ElementKind.CONSTRUCTOR;
+        if (owner.startsWith("java.") && !constructor) {
+            DUE.same("rule 4: " + owner + "." + name, isInLibrary(owner, name), true);
         } else if (method != null) {
             calls.get(method).add(called);
         }
@@ -183,15 +206,17 @@ final class LanguageTest extends TreePathScanner<Void, Void> {
     }
 
     @Override
-    public Void visitWhileLoop(WhileLoopTree tree, Void none) {
-        never("rule 9: a loop without a counter", tree);
-        return super.visitWhileLoop(tree, none);
+    public Void visitTry(TryTree tree, Void none) {
+        if (tree.getFinallyBlock() != null || !tree.getResources().isEmpty()) {
+            never("rule 6: finally, or try with resources", tree);
+        }
+        return super.visitTry(tree, none);
     }
 
     @Override
-    public Void visitTry(TryTree tree, Void none) {
-        never("the program needs no try", tree);
-        return super.visitTry(tree, none);
+    public Void visitCatch(CatchTree tree, Void none) {
+        DUE.same("rule 6: catch " + tree.getParameter(), EXCEPTIONS.contains(tree.getParameter().getType().toString()), true);
+        return super.visitCatch(tree, none);
     }
 
     @Override

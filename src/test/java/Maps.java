@@ -54,4 +54,24 @@ final class Maps {
         }
         return all.toString();
     }
+
+    /** Each point's height is its number, so that heights tell the points. */
+    static HillLines numbered() {
+        int[][] heights = new int[7][7];
+        for (int point = 0; point < 49; point++) {
+            heights[point / 7][point % 7] = point;
+        }
+        return of(heights);
+    }
+
+    /** The heights as {@link #heights(HillLines)} tells them. */
+    static String heights(int[][] heights) {
+        StringBuilder all = new StringBuilder();
+        for (int[] row : heights) {
+            for (int column = 0; column < 7; column++) {
+                all.append(row[column]).append(column == 6 ? "/" : " ");
+            }
+        }
+        return all.toString();
+    }
 }
