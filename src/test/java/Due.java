@@ -1,11 +1,16 @@
 /** What a test tells: each answer that is not the one that is due, and at the end whether there was one. */
 final class Due {
+    private static final long LONGEST_MILLISECONDS = 600_000L;
+
     private final String name;
     private int wrong = 0;
     private int told = 0;
 
     Due(String name) {
         this.name = name;
+        Thread limit = new Thread(this::endLate);
+        limit.setDaemon(true);
+        limit.start();
     }
 
     /** A call whose answer nobody looks at. */
@@ -48,6 +53,18 @@ final class Due {
         System.out.println(name + ": " + told + " answers, " + wrong + " wrong");
         if (wrong != 0) {
             System.exit(1);
+        }
+    }
+
+    /** A call that does not end is a fault too: without this the test would hang instead of failing. */
+    private void endLate() {
+        try {
+            Thread.sleep(LONGEST_MILLISECONDS);
+            System.out.println(name + ": not at its end after " + LONGEST_MILLISECONDS / 1000 + " seconds");
+            System.out.flush();
+            Runtime.getRuntime().halt(1);
+        } catch (InterruptedException ended) {
+            Thread.currentThread().interrupt();
         }
     }
 }
